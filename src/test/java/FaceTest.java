@@ -10,25 +10,25 @@ import java.util.TreeSet;
 /** The public face has what the document names, and no more; no private method shares a name. */
 public final class FaceTest {
     private static final Set<String> FACE = new TreeSet<>(Arrays.asList(
-            "NONE int",
+            "public static final int NONE",
             "StemShapes(int, int)",
-            "aim(int, double, double) void",
-            "shadow(int, int, double, double) void",
-            "lift(int, int) boolean",
+            "aim(int, double, double) void throws AI",
+            "shadow(int, int, double, double) void throws AI",
+            "lift(int, int) boolean throws A",
             "run() int",
-            "shape(int, int) double",
-            "fitted(int) boolean",
-            "inside(int, double, double) boolean",
-            "wholes(int) int",
-            "volume() double",
-            "taper() double",
-            "sweep() double",
-            "rule(int, double, int) int",
-            "cls() int",
-            "keep() void",
-            "apart(int) double",
-            "match() int",
-            "law(long, long, long) long"));
+            "shape(int, int) double throws AS",
+            "fitted(int) boolean throws AS",
+            "inside(int, double, double) boolean throws AIS",
+            "wholes(int) int throws AS",
+            "volume() double throws S",
+            "taper() double throws S",
+            "sweep() double throws S",
+            "rule(int, double, int) int throws IS",
+            "cls() int throws S",
+            "keep() void throws S",
+            "apart(int) double throws IS",
+            "match() int throws S",
+            "law(long, long, long) long throws I"));
     private static final Due DUE = new Due();
     private static final Set<String> SEEN = new TreeSet<>();
 
@@ -38,14 +38,15 @@ public final class FaceTest {
                 (face.getModifiers() & (Modifier.PUBLIC | Modifier.FINAL))
                         == (Modifier.PUBLIC | Modifier.FINAL), true);
         for (Field field : face.getDeclaredFields()) {
-            look(field, field.getName() + " " + field.getType());
+            look(field, Modifier.toString(field.getModifiers()) + " " + field.getType() + " "
+                    + field.getName());
         }
         for (Constructor<?> made : face.getDeclaredConstructors()) {
             look(made, "StemShapes" + types(made.getParameterTypes()));
         }
         for (Method method : face.getDeclaredMethods()) {
             look(method, method.getName() + types(method.getParameterTypes()) + " "
-                    + method.getReturnType());
+                    + method.getReturnType() + thrown(method));
         }
         if (!SEEN.equals(FACE)) {
             DUE.complain("the public face", SEEN.toString(), FACE.toString());
@@ -75,6 +76,17 @@ public final class FaceTest {
                 DUE.answer(own + " shares a name", clash, false);
             }
         }
+    }
+
+    /** The first letters that tell the exceptions apart, in the order in which they are named. */
+    private static String thrown(Method method) {
+        StringBuilder text = new StringBuilder();
+        for (Class<?> type : method.getExceptionTypes()) {
+            text.append(type == ArrayIndexOutOfBoundsException.class ? "A"
+                    : type == IllegalArgumentException.class ? "I"
+                    : type == IllegalStateException.class ? "S" : type.getName());
+        }
+        return text.length() == 0 ? "" : " throws " + text;
     }
 
     private static String types(Class<?>[] types) {
