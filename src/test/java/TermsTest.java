@@ -27,6 +27,8 @@ public final class TermsTest {
         noRuleIsNone();
         firstRuleThatHolds();
         mendedAreCountedByRules();
+        mendedAreThoseOfTheLastRun();
+        everySliceIsKept();
         everyTurn();
         leastTurnOfSeveral();
         DUE.end();
@@ -402,7 +404,7 @@ public final class TermsTest {
         }
     }
 
-    /** "4 slices that were MENDED at most": those of the last run. */
+    /** "4 slices that were MENDED at most" */
     private static void mendedAreCountedByRules() {
         for (int mended = 0; mended < 16; mended++) {
             StemShapes stem = Stems.crossed(16);
@@ -418,6 +420,46 @@ public final class TermsTest {
             DUE.answer("cls() below " + mended + " mended", stem.cls(), StemShapes.NONE);
             stem.rule(4, mended, 2);
             DUE.answer("cls() of " + mended + " mended", stem.cls(), 2);
+        }
+    }
+
+    /** "OF THE STEM (when it was run)": what an earlier run mended is not counted. */
+    private static void mendedAreThoseOfTheLastRun() {
+        StemShapes stem = Stems.crossed(4);
+        stem.rule(4, 0, 10);
+        stem.rule(4, 1, 11);
+        stem.rule(4, 2, 12);
+        stem.rule(4, 3, 13);
+        DUE.answer("run() of none", stem.run(), 0);
+        for (int slice = 0; slice < 4; slice++) {
+            Stems.put(stem, slice, 0, 0, 1);
+            DUE.answer("run() to slice " + slice, stem.run(), slice + 1);
+            DUE.answer("run() to slice " + slice + ", again", stem.run(), slice + 1);
+            DUE.answer("cls() to slice " + slice, stem.cls(), 13 - slice);
+        }
+        stem.lift(2, 0);
+        stem.run();
+        DUE.answer("cls() behind a lift", stem.cls(), 11);
+    }
+
+    /** "KEPT is a stem: its centres", and APART "the sum over slices" */
+    private static void everySliceIsKept() {
+        for (int slices = 1; slices <= 16; slices++) {
+            StemShapes stem = Stems.crossed(slices);
+            for (int slice = 0; slice < slices; slice++) {
+                Stems.put(stem, slice, slice, 2 * slice + 1, 5);
+            }
+            stem.run();
+            stem.keep();
+            DUE.answer("apart(0) of the same", stem.apart(0), 0);
+            for (int slice = 0; slice < slices; slice++) {
+                Stems.put(stem, slice, slice + 3, 2 * slice + 5, 7);
+            }
+            stem.run();
+            DUE.answer("apart(0) of " + slices + " slices", stem.apart(0), 25 * slices);
+            Stems.put(stem, slices - 1, slices - 1, 2 * slices - 1, 9);
+            stem.run();
+            DUE.answer("apart(0) but for the last slice", stem.apart(0), 25 * slices - 25);
         }
     }
 
