@@ -93,7 +93,7 @@ public final class ReckoningTest {
         }
     }
 
-    /** Places so near to the edge of slice 5 that another order of reckoning would misplace them. */
+    /** The places inside slice 5 are so near to its edge that another order would put them outside. */
     private static void edgeOfInside() {
         double[][] inside = {
             {-0.1627957020853491, -6.814353907070767},
